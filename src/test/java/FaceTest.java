@@ -1,0 +1,119 @@
+import java.io.IOException;
+import java.lang.reflect.Constructor;
+import java.lang.reflect.Field;
+import java.lang.reflect.Method;
+import java.lang.reflect.Modifier;
+import java.nio.charset.StandardCharsets;
+import java.nio.file.Files;
+import java.nio.file.Path;
+import java.util.Arrays;
+import java.util.List;
+import java.util.Set;
+import java.util.TreeSet;
+import java.util.regex.Matcher;
+import java.util.regex.Pattern;
+
+/** The document's face and those rules of LANGUAGE.md that can be read off the class and its text. */
+public final class FaceTest {
+    private static final Check C = new Check("FaceTest");
+    private static final List<String> METHODS = List.of(
+        "int enter 4", "int mark 2", "int ticket 2", "int kind 2", "int groups 2", "int ofPerson 2", "int ranked 1",
+        "int above 1", "int alike 1", "int seats 2", "int reserve 3", "int heir 2", "int manner 1", "int order 4",
+        "int seat 1", "int counted 1", "int handed 1", "int taken 2", "int ofKind 2", "long ways 1", "int by 2",
+        "int sure 1", "int threshold 1", "int claim 1", "int successor 1", "int passed 1", "int nearest 1", "int envy 0",
+        "int round 0", "int answer 2", "int again 1", "int note 2", "int back 1", "int many 1");
+
+    public static void main(String[] args) throws IOException {
+        face();
+        members();
+        inside();
+        String text = Files.readString(Path.of("src/main/java/KeptSeats.java"), StandardCharsets.ISO_8859_1);
+        words(text);
+        lengths(text);
+        C.end();
+    }
+
+    private static void face() {
+        C.due("UNKNOWN", KeptSeats.UNKNOWN, -1);
+        C.due("OUTSIDE", KeptSeats.OUTSIDE, -2);
+        C.due("STATE", KeptSeats.STATE, -3);
+        C.due("FULL", KeptSeats.FULL, -4);
+        C.due("NONE", KeptSeats.NONE, -9);
+        int modifiers = KeptSeats.class.getModifiers();
+        C.holds("the class is public and final", Modifier.isPublic(modifiers) && Modifier.isFinal(modifiers));
+        Constructor<?>[] all = KeptSeats.class.getDeclaredConstructors();
+        C.holds("one constructor", all.length == 1 && all[0].getParameterCount() == 0);
+        C.holds("it is public", Modifier.isPublic(all[0].getModifiers()));
+        Set<String> found = new TreeSet<>();
+        for (Method m : KeptSeats.class.getDeclaredMethods()) {
+            if (Modifier.isPublic(m.getModifiers())) {
+                found.add(m.getReturnType() + " " + m.getName() + " " + m.getParameterCount());
+                C.holds("arguments of " + m.getName() + " are int",
+                    Arrays.stream(m.getParameterTypes()).allMatch(t -> t == int.class));
+                C.holds(m.getName() + " is not static", !Modifier.isStatic(m.getModifiers()));
+            }
+        }
+        C.holds("the methods of the document, and no other: " + found, found.equals(new TreeSet<>(METHODS)));
+    }
+
+    private static boolean hidden(int modifiers) {
+        return Modifier.isPrivate(modifiers);
+    }
+
+    private static void members() {
+        Set<String> names = new TreeSet<>();
+        for (Method m : KeptSeats.class.getDeclaredMethods()) {
+            if (Modifier.isPublic(m.getModifiers())) {
+                names.add(m.getName());
+            }
+        }
+        for (Method m : KeptSeats.class.getDeclaredMethods()) {
+            C.holds(m + " is public or private", Modifier.isPublic(m.getModifiers()) || hidden(m.getModifiers()));
+            C.holds(m + " has a name of its own", Modifier.isPublic(m.getModifiers()) || !names.contains(m.getName()));
+            C.holds(m + " has at most seven parameters", m.getParameterCount() <= 7);
+        }
+        List<String> constants = List.of("UNKNOWN", "OUTSIDE", "STATE", "FULL", "NONE");
+        for (Field f : KeptSeats.class.getDeclaredFields()) {
+            C.holds(f + " is of the face or private", constants.contains(f.getName()) == !hidden(f.getModifiers()));
+            boolean isStatic = Modifier.isStatic(f.getModifiers());
+            C.holds(f + ", if static, is final", !isStatic || Modifier.isFinal(f.getModifiers()));
+        }
+    }
+
+    private static void inside() {
+        Class<?>[] classes = KeptSeats.class.getDeclaredClasses();
+        C.holds("at most twelve classes", classes.length < 12);
+        for (Class<?> c : classes) {
+            C.holds(c + " is static", Modifier.isStatic(c.getModifiers()));
+            C.holds(c + " is not to be seen", !Modifier.isPublic(c.getModifiers()) && !Modifier.isProtected(c.getModifiers()));
+            int fields = 0;
+            for (Field f : c.getDeclaredFields()) {
+                fields += Modifier.isStatic(f.getModifiers()) ? 0 : 1;
+                C.holds(f + " static only if final", !Modifier.isStatic(f.getModifiers()) || Modifier.isFinal(f.getModifiers()));
+            }
+            C.holds(c + " has at most twenty fields", fields <= 20);
+        }
+    }
+
+    private static void words(String text) {
+        String code = text.replaceAll("(?s)/\\*.*?\\*/", "").replaceAll("//[^\n]*", "");
+        Matcher m = Pattern.compile("\\b(throw|throws|try|catch|synchronized|assert|import|package|System\\.(?!arraycopy)"
+            + "\\w+|Thread|Random|\\w+Exact|hashCode|toString|equals)\\b|->|::|@").matcher(code);
+        while (m.find()) {
+            C.holds("no '" + m.group() + "' in the class", false);
+        }
+        C.holds("plain signs only", text.chars().allMatch(s -> s == '\n' || s >= 32 && s < 127));
+    }
+
+    /** Counts the lines of each method by the indentation of its first and its last line. */
+    private static void lengths(String text) {
+        Matcher m = Pattern.compile("(?m)^( {4}| {8})(?! )[^\n=/*]*\\([^\n]*\\) \\{\n(?s:.*?)\n\\1\\}").matcher(text);
+        int methods = 0;
+        while (m.find()) {
+            methods++;
+            long lines = m.group().lines().count();
+            C.holds("a method of " + lines + " lines: " + m.group().lines().findFirst().get(), lines <= 60);
+        }
+        C.holds("methods are found in the text: " + methods, methods > 60);
+    }
+}
