@@ -86,6 +86,9 @@ public final class FaceTest {
         for (Class<?> c : classes) {
             C.holds(c + " is static", Modifier.isStatic(c.getModifiers()));
             C.holds(c + " is not to be seen", !Modifier.isPublic(c.getModifiers()) && !Modifier.isProtected(c.getModifiers()));
+            for (Method m : c.getDeclaredMethods()) {
+                C.holds(m + " has a name of its own", METHODS.stream().noneMatch(t -> t.split(" ")[1].equals(m.getName())));
+            }
             int fields = 0;
             for (Field f : c.getDeclaredFields()) {
                 fields += Modifier.isStatic(f.getModifiers()) ? 0 : 1;

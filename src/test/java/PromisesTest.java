@@ -188,6 +188,13 @@ public final class PromisesTest {
         due("7 ofPerson ahead: ticket", x.ofPerson(1, 5), 1);
         due("7 ofPerson ahead: number", x.ofPerson(0, 5), 2);
         due("7 ofPerson ahead: number", x.ofPerson(2, 5), 3);
+        KeptSeats y = new KeptSeats();
+        y.enter(49, 0, 0, 0);
+        y.enter(50, 999, 0, 0);
+        y.enter(50, 998, 0, 0);
+        due("7 ofPerson ahead: a mark more goes before any ticket", y.ofPerson(0, 5), 2);
+        due("7 ofPerson ahead: a mark more goes before any ticket", y.ofPerson(1, 5), 1);
+        due("7 ofPerson ahead: a ticket less goes before any number", y.ofPerson(2, 5), 0);
         due("7 ofPerson unknown", x.ofPerson(4, 0), UNKNOWN);
         due("7 ofPerson: UNKNOWN before OUTSIDE", x.ofPerson(-1, 6), UNKNOWN);
         due("7 ofPerson 6", x.ofPerson(0, 6), OUTSIDE);
@@ -324,6 +331,20 @@ public final class PromisesTest {
         due("15 order", x.order(3, 2, 0, 1), 1);
         due("15 order is set", x.seat(0), 0);
         due("15 order is an act", x.many(4), 5);
+        x.kind(0, 3);
+        x.seats(3, 1);
+        x.order(1, 2, 0, 3);
+        due("15 order: third before fourth", x.seat(0), 0);
+        x.order(1, 2, 3, 0);
+        due("15 order: third before fourth", x.seat(0), 3);
+        x.order(0, 1, 2, 3);
+        x.seats(0, 0);
+        due("15 order: the fourth", x.seat(0), 3);
+        due("15 order 4", x.order(0, 4, 2, 3), OUTSIDE);
+        due("15 order 4", x.order(0, 1, 4, 3), OUTSIDE);
+        due("15 order 36", x.order(0, 33, 34, 3), OUTSIDE);
+        due("15 order 36", x.order(0, 33, 2, 3), OUTSIDE);
+        due("15 order 36", x.order(0, 1, 34, 3), OUTSIDE);
         due("15 order twice", x.order(0, 1, 1, 3), OUTSIDE);
         due("15 order 4", x.order(0, 1, 2, 4), OUTSIDE);
         due("15 order -1", x.order(-1, 1, 2, 3), OUTSIDE);
@@ -601,6 +622,9 @@ public final class PromisesTest {
         due("21 ways: nobody can be counted", x.ways(0), 1);
         x.reserve(0, 0, 1);
         due("21 ways: one of nine", x.ways(0), 9);
+        x.reserve(0, 0, 5);
+        due("21 ways: five of nine", x.ways(0), 126);
+        x.reserve(0, 0, 1);
         x.reserve(0, 1, 1);
         due("21 ways: two of nine", x.ways(0), 72);
         x.reserve(0, 1, 2);
@@ -668,6 +692,10 @@ public final class PromisesTest {
         due("23 sure, with another order now", x.sure(0), 1);
         due("23 sure: nothing changes", x.seat(1), 0);
         due("23 sure without applicants", new KeptSeats().sure(0), 0);
+        KeptSeats y = withMarks(10, 20);
+        y.seats(0, 1);
+        due("23 sure: never", y.sure(1), 2);
+        due("23 sure: always", y.sure(0), 2);
     }
 
     private static void threshold() {
@@ -755,6 +783,12 @@ public final class PromisesTest {
         x.seats(0, 9);
         due("26 successor: none", x.successor(0), NONE);
         x.seats(0, 1);
+        due("26 successor: the other one with the group", x.successor(2), 3);
+        x.reserve(0, 0, 0);
+        due("26 successor: the next by rank", x.successor(0), 1);
+        x.reserve(0, 0, 1);
+        x.groups(3, 0);
+        due("26 successor: the best ranked", x.successor(2), 0);
         x.round();
         x.answer(2, 2);
         due("26 successor of a frozen one", x.successor(2), STATE);
@@ -766,6 +800,16 @@ public final class PromisesTest {
         due("27 passed: in the choice", x.passed(0), STATE);
         due("27 passed unknown", x.passed(3), UNKNOWN);
         due("27 passed unknown", x.passed(-1), UNKNOWN);
+        KeptSeats y = new KeptSeats();
+        y.enter(10, 0, 0, 1);
+        y.enter(20, 0, 0, 1);
+        y.enter(90, 0, 0, 0);
+        y.enter(95, 0, 1, 0);
+        y.seats(0, 2);
+        y.reserve(0, 0, 2);
+        due("27 passed: two", y.passed(2), 3);
+        y.seats(1, 1);
+        due("27 passed: not one who is ahead", y.passed(2), 3);
         x.manner(2);
         due("27 passed: nobody", x.passed(2), 0);
         x.manner(0);
@@ -824,7 +868,37 @@ public final class PromisesTest {
         due("29 envy: not of one who would not fill", y.envy(), 1);
         y.reserve(0, 0, 0);
         due("29 envy: of nobody behind", y.envy(), 0);
+        envyOfSeveral();
         kindsOfEnvy();
+    }
+
+    /** By rule 1 the applicant with both groups is taken for the first, and the worst two for the second. */
+    private static void envyOfSeveral() {
+        KeptSeats x = new KeptSeats();
+        x.enter(10, 0, 0, 2);
+        x.enter(20, 0, 0, 2);
+        x.enter(60, 0, 0, 1);
+        x.enter(70, 0, 0, 1);
+        x.enter(80, 0, 0, 0);
+        x.enter(90, 0, 0, 3);
+        x.seats(0, 3);
+        x.reserve(0, 0, 1);
+        x.reserve(0, 1, 2);
+        x.manner(1);
+        due("29 envy: 5, 1 and 0 are taken", x.by(1, 0), 35);
+        due("29 envy: 2 and 3 of 0 and of 1", x.envy(), 4);
+        x.kind(3, 1);
+        due("29 envy: kind 0 is open to all", x.envy(), 4);
+        x.mark(2, 15);
+        due("29 envy: not of one who is ahead", x.envy(), 3);
+        x.seats(1, 1);
+        due("29 envy: not by one who has a seat", x.envy(), 1);
+        x.back(3);
+        x.round();
+        x.answer(0, 2);
+        due("29 envy: not of a frozen one", x.envy(), 2);
+        x.answer(5, 0);
+        due("29 envy: not by one who is out", x.envy(), 0);
     }
 
     private static void kindsOfEnvy() {
@@ -1032,6 +1106,11 @@ public final class PromisesTest {
         due("34 back 25", x.back(25), OUTSIDE);
         due("34 back 10", x.back(10), 14);
         due("34 back 10", x.ofPerson(0, 0), 60);
+        due("34 back: the choice too", x.seat(0), NONE);
+        x.seats(0, 1);
+        due("34 back: the choice too", x.seat(0), 0);
+        x.back(1);
+        due("34 back: the choice too", x.seat(0), NONE);
         x.mark(0, 99);
         due("34 back 15", x.back(15), 0);
         due("34 back 15: no further", x.ofPerson(0, 0), 46);
@@ -1067,6 +1146,12 @@ public final class PromisesTest {
         due("35 counted", x.many(5), 0);
         due("35 frozen", x.many(6), 1);
         due("35 out", x.many(7), 1);
+        x.seats(0, 3);
+        x.round();
+        x.answer(1, 2);
+        due("35 two frozen", x.many(6), 2);
+        due("35 one out", x.many(7), 1);
+        x.back(3);
         x.back(3);
         due("35 rounds", x.many(3), 0);
         due("35 acts", x.many(4), 6);
