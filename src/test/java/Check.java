@@ -1,12 +1,18 @@
 /** Compares answers with those that are due, tells the wrong ones, and ends a test with the right exit code. */
 final class Check {
-    private static final int TOLD = 40;
     private final String test;
+    private final int told;
     private int calls = 0;
     private int wrong = 0;
 
     Check(String test) {
+        this(test, 40);
+    }
+
+    /** told: how many wrong answers are told at most. */
+    Check(String test, int told) {
         this.test = test;
+        this.told = told;
     }
 
     void due(String call, long got, long want) {
@@ -25,7 +31,7 @@ final class Check {
 
     private void tell(String text) {
         wrong++;
-        if (wrong <= TOLD) {
+        if (wrong <= told) {
             System.out.println(test + ": " + text);
         }
     }
