@@ -643,23 +643,27 @@ final class ChoiceSentences extends Part {
                 due("some order with " + kind + " before 0", y.sure(1), 7);
                 due("some order with 0 before " + kind, y.sure(0), 1);
             }
-            KeptSeats z = withKinds(1, 2, 3, 0);
-            for (int kind = 0; kind < 4; kind++) {
-                z.seats(kind, 1);
+            firstAndLast();
+            int[][] kinds = {{1, 2, 3}, {1, 3, 2}, {2, 1, 3}, {2, 3, 1}, {3, 1, 2}, {3, 2, 1}};
+            for (int[] k : kinds) {
+                eachOrder(k[0], k[1], k[2]);
             }
-            due("0 as the last alone has a seat for 3", z.sure(1), 15);
-            due("the others have one always", z.sure(0), 7);
         });
-        says("Nothing changes.", () -> isNoAct(() -> {
-            KeptSeats x = withKinds(1, 0, 1);
-            x.seats(0, 1);
-            x.seats(1, 1);
-            x.order(2, 1, 3, 0);
-            return x;
-        }, x -> {
-            x.sure(0);
-            x.sure(1);
-        }));
+        says("Nothing changes.", () -> {
+            for (int first = 0; first < 2; first++) {
+                int[] order = {first, 1 - first, 2, 3};
+                isNoAct(() -> {
+                    KeptSeats x = withKinds(1, 0, 1);
+                    x.seats(0, 1);
+                    x.seats(1, 1);
+                    x.order(order[0], order[1], order[2], order[3]);
+                    return x;
+                }, x -> {
+                    x.sure(0);
+                    x.sure(1);
+                });
+            }
+        });
         says("`how`: 0: the applicants who would be in it with each order;", () -> {
             KeptSeats x = withKinds(1, 0, 1, 2);
             due("no seats", x.sure(0), 0);
@@ -704,5 +708,43 @@ final class ChoiceSentences extends Part {
             due("far out", x.sure(LOWEST), OUTSIDE);
             due("far out", x.sure(HIGHEST), OUTSIDE);
         });
+    }
+
+    private void firstAndLast() {
+        KeptSeats x = withKinds(1, 2, 3, 0, 1, 2, 3);
+        x.seats(0, 3);
+        for (int kind = 1; kind < 4; kind++) {
+            x.seats(kind, 1);
+        }
+        due("with 0 as the first, 3 has no seat", x.sure(0), 7);
+        KeptSeats y = withKinds(1, 2, 3, 0);
+        for (int kind = 0; kind < 4; kind++) {
+            y.seats(kind, 1);
+        }
+        due("with 0 as the last alone, 3 has a seat", y.sure(1), 15);
+        due("the others have one always", y.sure(0), 7);
+    }
+
+    /** Offices in which few of the orders leave out one who has a seat with all others. */
+    private void eachOrder(int a, int b, int c) {
+        KeptSeats x = withKinds(c, a, b, a);
+        x.seats(0, 2);
+        x.seats(a, 1);
+        x.seats(b, 1);
+        x.seats(c, 2);
+        due("3 is left out if " + a + " is first and 0 the next", x.sure(0), 7);
+        KeptSeats y = withKinds(b, a, c, a);
+        for (int kind = 0; kind < 4; kind++) {
+            y.seats(kind, 1);
+        }
+        y.heir(b, a);
+        due("3 is left out if 0 is the third and " + c + " the last", y.sure(0), 7);
+        KeptSeats z = withKinds(c, 0, c);
+        z.seats(a, 1);
+        z.seats(b, 1);
+        z.heir(a, c);
+        z.heir(b, 0);
+        due("1 or 2, as " + a + " or " + b + " passes on first", z.sure(0), 1);
+        due("1 or 2, as " + a + " or " + b + " passes on first", z.sure(1), 7);
     }
 }

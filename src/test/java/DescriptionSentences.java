@@ -276,6 +276,13 @@ final class DescriptionSentences extends Part {
             due("one without groups", x.counted(3), NONE);
             x.reserve(0, 1, 0);
             due("without reserved seats", x.ofKind(0, 2), 0);
+            KeptSeats y = withGroups(2, 8);
+            y.seats(0, 2);
+            for (int group = 0; group < 4; group++) {
+                y.reserve(0, group, 5);
+            }
+            due("to group 1 alone", y.counted(0), 1);
+            due("to group 3 alone", y.counted(1), 3);
         });
         says("The fill of a set of applicants in a kind is the greatest number of them that can be counted at the same time.", () -> {
             KeptSeats x = withGroups(15, 7, 3, 1);

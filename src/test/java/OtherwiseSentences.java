@@ -118,6 +118,7 @@ final class OtherwiseSentences extends Part {
                 x.reserve(0, group, 0);
             }
             isNoAct(Part::threeForTwo, a -> a.claim(1));
+            due("with the group that it has", threeForTwo().claim(2), 0);
             KeptSeats y = withGroups(1, 1, 2, 3);
             y.seats(0, 2);
             y.reserve(0, 0, 1);

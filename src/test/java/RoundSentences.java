@@ -336,6 +336,7 @@ final class RoundSentences extends Part {
             x.answer(0, 0);
             x.again(0);
             x.answer(1, 2);
+            due("after the choice was looked at", x.seat(2), NONE);
             due("14 acts", x.back(14), 3);
             holds("everything", look(x).equals(before));
             x.kind(1, 1);

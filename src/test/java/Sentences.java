@@ -10,6 +10,7 @@ final class Sentences {
     private String section = "";
     private String sentence = "";
     private int looks = 0;
+    private boolean failed = false;
 
     Sentences(Check check) {
         this.check = check;
@@ -23,6 +24,7 @@ final class Sentences {
     void says(String words, Runnable test) {
         sentence = words;
         looks = 0;
+        failed = false;
         boolean isNew = said.computeIfAbsent(section, s -> new LinkedHashSet<>()).add(words);
         check.holds(place() + " is said once", isNew);
         try {
@@ -33,14 +35,17 @@ final class Sentences {
         check.holds(place() + " is looked at", looks > 0);
     }
 
+    /** Of a sentence that does not hold, the first wrong answer is told. */
     void due(String call, long got, long want) {
         looks++;
-        check.due(place() + " | " + call, got, want);
+        if (!failed) {
+            check.due(place() + " | " + call, got, want);
+        }
+        failed |= got != want;
     }
 
     void holds(String what, boolean is) {
-        looks++;
-        check.holds(place() + " | " + what, is);
+        due(what, is ? 1 : 0, 1);
     }
 
     Set<String> saidIn(String name) {
