@@ -647,6 +647,7 @@ final class ChoiceSentences extends Part {
             int[][] kinds = {{1, 2, 3}, {1, 3, 2}, {2, 1, 3}, {2, 3, 1}, {3, 1, 2}, {3, 2, 1}};
             for (int[] k : kinds) {
                 eachOrder(k[0], k[1], k[2]);
+                leftOutByOneOrder(k[0], k[1], k[2]);
             }
         });
         says("Nothing changes.", () -> {
@@ -746,5 +747,34 @@ final class ChoiceSentences extends Part {
         z.heir(b, 0);
         due("1 or 2, as " + a + " or " + b + " passes on first", z.sure(0), 1);
         due("1 or 2, as " + a + " or " + b + " passes on first", z.sure(1), 7);
+    }
+
+    /** Offices in which a single one of the 24 orders leaves out applicant 4, who has a seat with all others. */
+    private void leftOutByOneOrder(int a, int b, int c) {
+        KeptSeats x = withKinds(a, b, c, a, 0);
+        x.groups(1, 2);
+        x.groups(4, 7);
+        x.seats(0, 2);
+        x.seats(a, 1);
+        x.seats(b, 1);
+        x.seats(c, 1);
+        x.heir(b, 0);
+        x.heir(c, a);
+        x.reserve(0, 1, 1);
+        due("4 is left out by " + a + ", 0, " + b + ", " + c, x.sure(0), 15);
+        due("and has a seat with others", x.sure(1), 31);
+        KeptSeats y = withKinds(b, c, c, 0, c, c);
+        y.groups(1, 5);
+        y.groups(5, 5);
+        y.seats(0, 1);
+        y.seats(a, 1);
+        y.seats(b, 2);
+        y.seats(c, 1);
+        y.heir(a, c);
+        y.heir(b, 0);
+        y.manner(1);
+        y.reserve(c, 2, 1);
+        due("4 is left out by " + a + ", " + b + ", 0, " + c + " (and 3 by some)", y.sure(0), 7);
+        due("both have a seat with others", y.sure(1), 63);
     }
 }
