@@ -22,7 +22,7 @@ public final class AgainstPlainTest {
         int salt = args.length > 1 ? Integer.parseInt(args[1]) : 0;
         AgainstPlainTest t = new AgainstPlainTest();
         for (int seed = 0; seed < 150 * times; seed++) {
-            t.run(salt + seed, 3 + seed % 5, 400, 100);
+            t.run(salt + seed, 3 + seed % 5, 485, 100);
         }
         for (int seed = 0; seed < 150 * times; seed++) {
             t.run(salt + 10_000_000 + seed, 16, 300, 3);
