@@ -7,9 +7,13 @@ import java.util.LinkedHashMap;
 import java.util.List;
 import java.util.Map;
 
-/** The document's sections, each as the list of its sentences; a sentence ends with a full stop, a semicolon or its paragraph. */
+/**
+ * The document's sections, each as the list of its sentences, and the lines of its face; a sentence ends with a full stop, a
+ * semicolon or its paragraph.
+ */
 final class Document {
     private final Map<String, List<String>> sections = new LinkedHashMap<>();
+    private final List<String> face = new ArrayList<>();
     private final StringBuilder paragraph = new StringBuilder();
     private List<String> sentences = new ArrayList<>();
 
@@ -19,6 +23,8 @@ final class Document {
             code ^= line.startsWith("```");
             if (!code) {
                 read(line);
+            } else if (!line.startsWith("```")) {
+                face.add(line.strip());
             }
         }
         endParagraph();
@@ -27,6 +33,11 @@ final class Document {
     /** The sentences of the section whose heading is this, or begins with this and a colon. */
     List<String> sentencesOf(String section) {
         return sections.getOrDefault(section, List.of());
+    }
+
+    /** The lines of the class as the document shows it, which is its only code. */
+    List<String> face() {
+        return face;
     }
 
     private void read(String line) {

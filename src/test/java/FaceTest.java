@@ -8,23 +8,23 @@ import java.nio.file.Files;
 import java.nio.file.Path;
 import java.util.Arrays;
 import java.util.List;
+import java.util.Map;
 import java.util.Set;
+import java.util.TreeMap;
 import java.util.TreeSet;
 import java.util.regex.Matcher;
 import java.util.regex.Pattern;
+import java.util.stream.Collectors;
 
 /** The document's face and those rules of LANGUAGE.md that can be read off the class and its text. */
 public final class FaceTest {
     private static final Check C = new Check("FaceTest");
-    private static final List<String> METHODS = List.of(
-        "int enter 4", "int mark 2", "int ticket 2", "int kind 2", "int groups 2", "int ofPerson 2", "int ranked 1",
-        "int above 1", "int alike 1", "int seats 2", "int reserve 3", "int heir 2", "int manner 1", "int order 4",
-        "int seat 1", "int counted 1", "int handed 1", "int taken 2", "int ofKind 2", "long ways 1", "int by 2",
-        "int sure 1", "int threshold 1", "int claim 1", "int successor 1", "int passed 1", "int nearest 1", "int envy 0",
-        "int round 0", "int answer 2", "int again 1", "int note 2", "int back 1", "int many 1");
+    private static List<String> face = List.of();
 
     public static void main(String[] args) throws IOException {
-        face();
+        face = new Document(Path.of("../shared/DOC.md")).face();
+        constants();
+        signatures();
         members();
         inside();
         String text = Files.readString(Path.of("src/main/java/KeptSeats.java"), StandardCharsets.ISO_8859_1);
@@ -33,27 +33,80 @@ public final class FaceTest {
         C.end();
     }
 
-    private static void face() {
+    /** The names of the constants, each with the value that the document's face gives it. */
+    private static Map<String, Integer> constantsDue() {
+        Map<String, Integer> due = new TreeMap<>();
+        for (String line : face) {
+            if (line.startsWith("public static final int ")) {
+                Matcher m = Pattern.compile("(\\w+) = (-?\\d+)").matcher(line);
+                while (m.find()) {
+                    due.put(m.group(1), Integer.parseInt(m.group(2)));
+                }
+            }
+        }
+        return due;
+    }
+
+    /** The document's methods as "int enter(int, int, int, int)". */
+    private static Set<String> methodsDue() {
+        Set<String> due = new TreeSet<>();
+        for (String line : face) {
+            Matcher m = Pattern.compile("public (int|long) (\\w+)\\((.*)\\);").matcher(line);
+            if (m.matches()) {
+                due.add(m.group(1) + " " + m.group(2) + "(" + m.group(3).replaceAll("(\\w+) \\w+", "$1") + ")");
+            }
+        }
+        return due;
+    }
+
+    private static Set<String> namesDue() {
+        return methodsDue().stream().map(t -> t.replaceAll("\\w+ (\\w+)\\(.*", "$1")).collect(Collectors.toCollection(TreeSet::new));
+    }
+
+    private static void constants() {
         C.due("UNKNOWN", KeptSeats.UNKNOWN, -1);
         C.due("OUTSIDE", KeptSeats.OUTSIDE, -2);
         C.due("STATE", KeptSeats.STATE, -3);
         C.due("FULL", KeptSeats.FULL, -4);
         C.due("NONE", KeptSeats.NONE, -9);
+        Map<String, Integer> found = new TreeMap<>();
+        for (Field f : KeptSeats.class.getFields()) {
+            boolean isConstant = Modifier.isStatic(f.getModifiers()) && Modifier.isFinal(f.getModifiers());
+            C.holds(f + " is a constant of int", isConstant && f.getType() == int.class);
+            found.put(f.getName(), valueOf(f));
+        }
+        C.holds("the constants of the document, and no other: " + found, found.equals(constantsDue()));
+        C.due("constants in the document", constantsDue().size(), 5);
+    }
+
+    private static int valueOf(Field f) {
+        try {
+            return f.getInt(null);
+        } catch (ReflectiveOperationException e) {
+            throw new IllegalStateException(e);
+        }
+    }
+
+    private static void signatures() {
+        C.holds("the document's class", face.contains("public final class KeptSeats {") && face.contains("public KeptSeats();"));
         int modifiers = KeptSeats.class.getModifiers();
         C.holds("the class is public and final", Modifier.isPublic(modifiers) && Modifier.isFinal(modifiers));
+        C.holds("it is a class of its own", KeptSeats.class.getSuperclass() == Object.class);
+        C.due("interfaces", KeptSeats.class.getInterfaces().length, 0);
         Constructor<?>[] all = KeptSeats.class.getDeclaredConstructors();
         C.holds("one constructor", all.length == 1 && all[0].getParameterCount() == 0);
         C.holds("it is public", Modifier.isPublic(all[0].getModifiers()));
         Set<String> found = new TreeSet<>();
         for (Method m : KeptSeats.class.getDeclaredMethods()) {
             if (Modifier.isPublic(m.getModifiers())) {
-                found.add(m.getReturnType() + " " + m.getName() + " " + m.getParameterCount());
-                C.holds("arguments of " + m.getName() + " are int",
-                    Arrays.stream(m.getParameterTypes()).allMatch(t -> t == int.class));
+                String types = Arrays.stream(m.getParameterTypes()).map(Class::toString).collect(Collectors.joining(", "));
+                found.add(m.getReturnType() + " " + m.getName() + "(" + types + ")");
                 C.holds(m.getName() + " is not static", !Modifier.isStatic(m.getModifiers()));
+                C.due("exceptions of " + m.getName(), m.getExceptionTypes().length, 0);
             }
         }
-        C.holds("the methods of the document, and no other: " + found, found.equals(new TreeSet<>(METHODS)));
+        C.holds("the methods of the document, and no other: " + found, found.equals(methodsDue()));
+        C.due("methods in the document", found.size(), 34);
     }
 
     private static boolean hidden(int modifiers) {
@@ -61,18 +114,13 @@ public final class FaceTest {
     }
 
     private static void members() {
-        Set<String> names = new TreeSet<>();
-        for (Method m : KeptSeats.class.getDeclaredMethods()) {
-            if (Modifier.isPublic(m.getModifiers())) {
-                names.add(m.getName());
-            }
-        }
+        Set<String> names = namesDue();
         for (Method m : KeptSeats.class.getDeclaredMethods()) {
             C.holds(m + " is public or private", Modifier.isPublic(m.getModifiers()) || hidden(m.getModifiers()));
             C.holds(m + " has a name of its own", Modifier.isPublic(m.getModifiers()) || !names.contains(m.getName()));
             C.holds(m + " has at most seven parameters", m.getParameterCount() <= 7);
         }
-        List<String> constants = List.of("UNKNOWN", "OUTSIDE", "STATE", "FULL", "NONE");
+        Set<String> constants = constantsDue().keySet();
         for (Field f : KeptSeats.class.getDeclaredFields()) {
             C.holds(f + " is of the face or private", constants.contains(f.getName()) == !hidden(f.getModifiers()));
             boolean isStatic = Modifier.isStatic(f.getModifiers());
@@ -87,8 +135,7 @@ public final class FaceTest {
             C.holds(c + " is static", Modifier.isStatic(c.getModifiers()));
             C.holds(c + " is not to be seen", !Modifier.isPublic(c.getModifiers()) && !Modifier.isProtected(c.getModifiers()));
             for (Method m : c.getDeclaredMethods()) {
-                boolean isNamesake = METHODS.stream().anyMatch(t -> t.split(" ")[1].equals(m.getName()));
-                C.holds(m + " has a name of its own", !hidden(m.getModifiers()) || !isNamesake);
+                C.holds(m + " has a name of its own", !hidden(m.getModifiers()) || !namesDue().contains(m.getName()));
             }
             int fields = 0;
             for (Field f : c.getDeclaredFields()) {
@@ -135,7 +182,7 @@ public final class FaceTest {
                 C.holds(head.group(1) + " has " + lines + " lines", lines <= 65);
             }
         }
-        C.holds("methods are found in the text: " + methods, methods > METHODS.size());
+        C.holds("methods are found in the text: " + methods, methods > namesDue().size());
     }
 
     /** Where the block ends that has begun before this place. */

@@ -4,8 +4,9 @@ import java.util.ArrayList;
 import java.util.List;
 
 /**
- * The document sentence by sentence: each sentence of the description and of the promises has a test of its own, which fails
- * if the sentence does not hold. A sentence without a test fails, too, as does a test whose sentence is not in the document.
+ * The document sentence by sentence: each sentence on what the class is, of the description and of the promises has a test of
+ * its own, which fails if the sentence does not hold. A sentence without a test fails, too, as does a test whose sentence is
+ * not in the document.
  */
 public final class SentencesTest {
     private static final Check C = new Check("SentencesTest", 400);
@@ -13,9 +14,9 @@ public final class SentencesTest {
     public static void main(String[] args) throws IOException {
         Sentences sentences = new Sentences(C);
         List<Part> parts = List.of(
-            new DescriptionSentences(sentences), new ActSentences(sentences), new PersonSentences(sentences),
-            new SeatSentences(sentences), new ChoiceSentences(sentences), new OtherwiseSentences(sentences),
-            new RoundSentences(sentences));
+            new WhatItIsSentences(sentences), new DescriptionSentences(sentences), new ActSentences(sentences),
+            new PersonSentences(sentences), new SeatSentences(sentences), new ChoiceSentences(sentences),
+            new OtherwiseSentences(sentences), new RoundSentences(sentences));
         for (Part part : parts) {
             part.tell();
         }
@@ -24,7 +25,7 @@ public final class SentencesTest {
     }
 
     private static void compare(Sentences sentences, Document document) {
-        List<String> sections = new ArrayList<>(List.of("Description"));
+        List<String> sections = new ArrayList<>(List.of("What it is", "Description"));
         for (int promise = 1; promise <= 35; promise++) {
             sections.add("Promise " + promise);
         }
